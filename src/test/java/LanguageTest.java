@@ -2,6 +2,7 @@ import com.sun.source.tree.ClassTree;
 import com.sun.source.tree.CompilationUnitTree;
 import com.sun.source.tree.MethodInvocationTree;
 import com.sun.source.tree.MethodTree;
+import com.sun.source.tree.NewArrayTree;
 import com.sun.source.tree.NewClassTree;
 import com.sun.source.tree.Tree;
 import com.sun.source.tree.VariableTree;
@@ -123,7 +124,9 @@ public final class LanguageTest {
                     due.is(tree.getName() + " is a name twice", other.getSimpleName().equals(tree.getName()) ? 1 : 0, 0);
                 }
             }
-            return super.visitMethod(tree, nothing);
+            super.visitMethod(tree, nothing);
+            method = null;
+            return null;
         }
 
         private void called(Tree tree) {
@@ -147,9 +150,22 @@ public final class LanguageTest {
             return super.visitMethodInvocation(tree, nothing);
         }
 
+        /** All of a run lives in one room, so objects are made with the class alone. */
+        private void made(Tree tree) {
+            due.is("line " + line(start(tree)) + " makes an object in a call",
+                method != null && method.getKind() == ElementKind.METHOD ? 1 : 0, 0);
+        }
+
+        @Override
+        public Void visitNewArray(NewArrayTree tree, Void nothing) {
+            made(tree);
+            return super.visitNewArray(tree, nothing);
+        }
+
         @Override
         public Void visitNewClass(NewClassTree tree, Void nothing) {
             called(tree);
+            made(tree);
             due.is("a class without a name", tree.getClassBody() == null ? 0 : 1, 0);
             return super.visitNewClass(tree, nothing);
         }

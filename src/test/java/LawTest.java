@@ -85,6 +85,9 @@ public final class LawTest {
         fault("!d+!d+!d+!d+!d+!d+!d+!d", -1);
         fault("(((((!d+!d)))))", -1);
         fault("(((((!(d))))))", 6);
+        fault("1?((((((d))))))", -1);
+        fault("1?(((((((d", 8);
+        fault("((((((d))))))?1;((((((d))))))?((((((d))))))", -1);
         fault("d\u00e9", 1);
         StringBuilder full = new StringBuilder("1");
         while (full.length() < 119) {
