@@ -7,6 +7,7 @@ public final class DrownedLight {
     public static final int BAD = -1, NOT = -2, FULL = -3, STATE = -5, VOID = -2000000000;
 
     private static final int NOTHING_THERE = -11, OTHER_KIND = -12, NO_PLACE = -13, SIZE_BELOW_0 = -14;
+    /** BAD where a long is answered; element() tells its other refusals by it, too. */
     private static final long BAD_LONG = 1L << 63;
 
     private static final int CELLS = 64, WIDTH = 8, MOST_LOST = 10, PARISHES = 4, WAYS = 4, UNLIT = 4, NO_DRIFT = 4;
@@ -64,7 +65,7 @@ public final class DrownedLight {
     }
 
     public int losts(int shelf, int i, int n) {
-        if (!isShelf(shelf) || i < 0 || n < 1 || n > MOST_LOST) {
+        if (!isShelf(shelf) || n < 1 || n > MOST_LOST) {
             return BAD;
         }
         Shelf from = shelves[shelf];
@@ -76,7 +77,7 @@ public final class DrownedLight {
         }
         int came = 0;
         int place = i;
-        while (came < n && now.lost < MOST_LOST && place <= from.length - 3 && isLostOne(from, place)) {
+        while (came < n && now.lost < MOST_LOST && from.hasPlaces(place, 3) && isLostOne(from, place)) {
             addLost(from.number(place), from.number(place + 1), from.number(place + 2));
             came++;
             place += 3;
@@ -375,11 +376,7 @@ public final class DrownedLight {
     }
 
     public long element(int shelf, int i) {
-        int refusal = refusalOfPlace(shelf, i);
-        if (refusal == BAD) {
-            return BAD_LONG;
-        }
-        return refusal != 0 ? refusal : shelves[shelf].items[i];
+        return refusalOfPlace(shelf, i) == 0 ? shelves[shelf].items[i] : BAD_LONG;
     }
 
     public int shift(int shelf, int i, int other, int j, int n) {

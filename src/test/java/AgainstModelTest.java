@@ -149,7 +149,7 @@ public final class AgainstModelTest {
             case 4: a = about(11); same("order " + a, x.order(shelf, a), m.order(shelf, a)); break;
             case 5: same("clash " + c, x.clash(shelf, c), m.clash(shelf, c)); break;
             case 6: a = about(1 << Math.max(1, m.now.souls.size())); same("may " + a, x.may(shelf, a), m.may(shelf, a)); break;
-            default: a = about(8); b = about(11); same("losts " + a + " " + b, x.losts(shelf, a, b), m.losts(shelf, a, b)); break;
+            default: a = about(8) - pick(0, 0, 0, 0, 0, 2); b = about(11); same("losts " + a + " " + b, x.losts(shelf, a, b), m.losts(shelf, a, b)); break;
         }
     }
 

@@ -444,7 +444,7 @@ final class PlainModel {
     }
 
     int losts(int shelf, int i, int n) {
-        if (shelf < 0 || shelf > 5 || i < 0 || n < 1 || n > 10) {
+        if (shelf < 0 || shelf > 5 || n < 1 || n > 10) {
             return BAD;
         }
         if (shelves[shelf] != null && !(shelves[shelf] instanceof byte[])) {
@@ -1062,18 +1062,13 @@ final class PlainModel {
             return Long.MIN_VALUE;
         }
         Object o = shelves[shelf];
-        if (o == null) {
-            return -11;
-        }
         try {
             if (o instanceof boolean[] a) {
                 return a[i] ? 1 : 0;
             }
             return java.lang.reflect.Array.getLong(o, i);
-        } catch (IllegalArgumentException e) {
-            return -12;
-        } catch (ArrayIndexOutOfBoundsException e) {
-            return -13;
+        } catch (NullPointerException | IllegalArgumentException | ArrayIndexOutOfBoundsException e) {
+            return Long.MIN_VALUE;
         }
     }
 

@@ -82,7 +82,7 @@ public final class SeaTest {
             due.is("led " + what, x.led(what), 0);
         }
         for (int shelf = 0; shelf < 6; shelf++) {
-            due.is("shelf " + shelf, x.element(shelf, 0), -11);
+            due.is("shelf " + shelf, x.put(shelf, 0, 0), -11);
         }
         due.is("undo", x.undo(), -5);
         due.is("redo", x.redo(), -5);
@@ -122,9 +122,12 @@ public final class SeaTest {
         due.is("shelf -1", x.losts(-1, 0, 1), -1);
         due.is("n 0", x.losts(0, 0, 0), -1);
         due.is("n 11", x.losts(0, 0, 11), -1);
-        due.is("i -1", x.losts(0, -1, 1), -1);
+        due.is("missing at place -1, too", x.losts(0, -1, 1), 0);
+        due.is("shelf 6 at place -1", x.losts(6, -1, 1), -1);
+        due.is("n 0 at place -1", x.losts(0, -1, 0), -1);
         x.row(1, 1, 9);
         due.is("shorts", x.losts(1, 0, 1), -12);
+        due.is("shorts at place -1", x.losts(1, -1, 1), -12);
         x.row(1, 4, 9);
         due.is("booleans", x.losts(1, 0, 1), -12);
         x.body(0);
@@ -132,6 +135,7 @@ public final class SeaTest {
         due.is("a NIGHT", x.losts(1, 0, 1), -12);
         x.row(0, 0, 0);
         due.is("an empty row", x.losts(0, 0, 5), 0);
+        due.is("an empty row at place -1", x.losts(0, -1, 5), 0);
         Due.bytes(x, 0, 63, 3, 9, 0, 0, 0, 5, 1);
         due.is("it ends within a three", x.losts(0, 0, 3), 2);
         due.is("first cell", x.of(0, 0), 63);
@@ -140,6 +144,10 @@ public final class SeaTest {
         due.is("second cell", x.of(1, 0), 0);
         due.is("not behind the row", x.losts(0, 8, 1), 0);
         due.is("far behind the row", x.losts(0, Integer.MAX_VALUE, 1), 0);
+        due.is("ahead of the row", x.losts(0, -1, 1), 0);
+        due.is("a three ahead of the row", x.losts(0, -3, 2), 0);
+        due.is("far ahead of the row", x.losts(0, Integer.MIN_VALUE, 1), 0);
+        due.is("none of these came", x.count(0), 2);
         due.is("from place 3 on, one", x.losts(0, 3, 1), 1);
         due.is("two places are no three", x.losts(0, 6, 1), 0);
         due.is("three came", x.count(0), 3);

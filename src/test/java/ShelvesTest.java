@@ -1,6 +1,7 @@
 /** Promises 34 to 38: shelves and their rows. */
 public final class ShelvesTest {
     private static final Due due = new Due();
+    private static final long NO = Long.MIN_VALUE;
 
     public static void main(String[] args) {
         keep();
@@ -29,12 +30,12 @@ public final class ShelvesTest {
         due.is("a row instead", x.taken(1, 5), -12);
         x.put(1, 1, 9);
         x.keep(1, 0);
-        due.is("a night instead", x.element(1, 1), -12);
+        due.is("a night instead", x.element(1, 1), NO);
         due.is("no put in a night", x.put(1, 1, 9), -12);
         x.row(1, 0, 3);
         due.is("a row anew is of zeros", x.element(1, 1), 0);
         x.keep(1, -1);
-        due.is("nothing instead", x.element(1, 1), -11);
+        due.is("nothing instead", x.element(1, 1), NO);
         due.is("no put in nothing", x.put(1, 1, 9), -11);
     }
 
@@ -50,24 +51,28 @@ public final class ShelvesTest {
         due.is("least", x.row(0, 0, Integer.MIN_VALUE), -14);
         due.is("BAD ahead of -14: shelf", x.row(6, 0, -1), -1);
         due.is("BAD ahead of -14: sort", x.row(0, 5, -1), -1);
-        due.is("nothing is there yet", x.element(0, 0), -11);
+        due.is("nothing is there yet", x.element(0, 0), NO);
+        due.is("nothing to put it in", x.put(0, 0, 1), -11);
         for (int sort = 0; sort < 5; sort++) {
             due.is("60", x.row(sort, sort, 60), 1);
             for (int i = 0; i < 60; i++) {
                 due.is("zero", x.element(sort, i), 0);
                 x.put(sort, i, 1);
             }
-            due.is("the 61st", x.element(sort, 60), -13);
+            due.is("the 61st", x.element(sort, 60), NO);
+            due.is("put: the 61st", x.put(sort, 60, 1), -13);
             x.row(sort, sort, -1);
             due.is("refused: all stands", x.element(sort, 59), 1);
             due.is("anew", x.row(sort, sort, 2), 1);
             due.is("zero again", x.element(sort, 1), 0);
-            due.is("shorter", x.element(sort, 2), -13);
+            due.is("shorter", x.element(sort, 2), NO);
+            due.is("put: shorter", x.put(sort, 2, 1), -13);
             due.is("longer", x.row(sort, sort, 60), 1);
             due.is("zero behind, too", x.element(sort, 30), 0);
         }
         due.is("empty", x.row(0, 0, 0), 1);
-        due.is("no place", x.element(0, 0), -13);
+        due.is("no place", x.element(0, 0), NO);
+        due.is("put: no place", x.put(0, 0, 1), -13);
     }
 
     private static void putAndElement() {
@@ -75,8 +80,14 @@ public final class ShelvesTest {
         DrownedLight x = new DrownedLight();
         due.is("put: shelf -1", x.put(-1, 0, 0), -1);
         due.is("put: shelf 6", x.put(6, 0, 0), -1);
-        due.is("element: shelf -1", x.element(-1, 0), Long.MIN_VALUE);
-        due.is("element: shelf 6", x.element(6, 0), Long.MIN_VALUE);
+        due.is("element: shelf -1", x.element(-1, 0), NO);
+        due.is("element: shelf 6", x.element(6, 0), NO);
+        due.is("element: nothing is there", x.element(0, 0), NO);
+        due.is("put: nothing is there", x.put(0, 0, 0), -11);
+        x.body(0);
+        x.keep(0, 0);
+        due.is("element: a night", x.element(0, 0), NO);
+        due.is("put: a night", x.put(0, 0, 0), -12);
         long[] put = {0, 1, -1, 2, 127, 128, 255, 256, 32767, 32768, 65536, 1L << 31, 1L << 32, Long.MAX_VALUE,
             Long.MIN_VALUE, 0x123456789abcdef0L};
         for (int sort = 0; sort < 5; sort++) {
@@ -84,9 +95,10 @@ public final class ShelvesTest {
             due.is("put: place -1", x.put(0, -1, 7), -13);
             due.is("put: place 3", x.put(0, 3, 7), -13);
             due.is("put: place least", x.put(0, Integer.MIN_VALUE, 7), -13);
-            due.is("element: place -1", x.element(0, -1), -13);
-            due.is("element: place 3", x.element(0, 3), -13);
-            due.is("element: place most", x.element(0, Integer.MAX_VALUE), -13);
+            due.is("element: place -1", x.element(0, -1), NO);
+            due.is("element: place 3", x.element(0, 3), NO);
+            due.is("element: place most", x.element(0, Integer.MAX_VALUE), NO);
+            due.is("element: place least", x.element(0, Integer.MIN_VALUE), NO);
             for (long v : put) {
                 long[] kept = {(byte) v, (short) v, (int) v, v, v == 0 ? 0 : 1};
                 due.is("put " + v, x.put(0, 1, v), 1);
@@ -100,7 +112,7 @@ public final class ShelvesTest {
         for (int i = 0; i < want.length; i++) {
             due.is("element " + i + " of " + shelf, x.element(shelf, i), want[i]);
         }
-        due.is("length", x.element(shelf, want.length), -13);
+        due.is("length", x.element(shelf, want.length), NO);
     }
 
     private static void shift() {
