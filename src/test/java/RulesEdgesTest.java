@@ -16,6 +16,7 @@ public final class RulesEdgesTest {
         may();
         share();
         shareCut();
+        ofTen();
         heard();
         turnsEdges();
         turnsWorth();
@@ -324,6 +325,28 @@ public final class RulesEdgesTest {
         due.is("2 by 3", x.share(0, 2), 0);
         due.is("3 by 3", x.share(1, 3), 1);
         due.is("5 by 3", x.share(2, 5), 1);
+    }
+
+    private static void ofTen() {
+        DrownedLight x = due.sentence("20: of ten LOST ones");
+        for (int i = 0; i < 10; i++) {
+            x.lost(i, i % 4);
+            x.mend(i, 2, 9);
+        }
+        // PARISHES 0 and 1 number 3 and OWED 27 by 3, PARISHES 2 and 3 number 2 and OWED 18 by 3
+        int[] claims = {12, 12, 8, 8};
+        for (int parish = 0; parish < 4; parish++) {
+            due.is("parish " + parish, x.share(parish, 9999), 9999 * claims[parish] / 40);
+        }
+        x = due.sentence("23: of ten LOST ones");
+        for (int i = 0; i < 10; i++) {
+            x.lost(i, 0);
+            x.mend(i, 3, i % 2);
+        }
+        due.is("all", x.drawn(1, 300112, -1), 150);
+        due.is("the last", x.drawn(1, 300112, 9), 30);
+        due.is("the last but one", x.drawn(1, 300112, 8), 0);
+        due.is("no eleventh", x.drawn(1, 300112, 10), -1);
     }
 
     private static void heard() {
